@@ -8,7 +8,8 @@ final class BindTest {
         bindsToConstantsAndStructures();
         bindsAVariableToItself();
         bindsYoungerToOlder();
-        bindsWholeChains();
+        bindsManyToOne();
+        bindsLongChains();
         agesFollowTheCallsAfterBacktracking();
         failsWhereTheVariableOccurs();
         looksThroughBindingsForTheVariable();
@@ -61,31 +62,38 @@ final class BindTest {
         check.dueTerm("bound at last", x, 2, Check.ATOM, 0, 0, 1);
     }
 
-    /** Backtracking beyond the younger variable shows which of the two holds the binding. */
+    /**
+     * No call shows which way a binding goes, but all show that the two are one variable, that
+     * it stays unbound, and that a backtrack which drops the younger leaves the older whole.
+     */
     private static void bindsYoungerToOlder() {
         for (int order = 0; order < 2; order++) {
             LogicHeapCollector x = new LogicHeapCollector(5, 32);
             x.newVar(0);
-            x.build(2, 3, 1, 0);
+            x.pushChoice();
             x.newVar(1);
-            x.build(3, 3, 1, 1);
+            x.build(2, 3, 1, 1);
             check.due("bind", order == 0 ? x.bind(0, 1) : x.bind(1, 0), Check.OK);
             check.due("sameVar(0, 1)", x.sameVar(0, 1), true);
-            check.due("kind(0)", x.kind(0), Check.VAR);
-            x.getArg(4, 3, 1);
-            check.due("the argument too", x.sameVar(4, 0), true);
-            // Now a third one, older than none: it must go to the oldest, not the other way.
+            check.dueTerm("the older", x, 0, Check.VAR, 0, 0, 1);
+            x.getArg(3, 2, 1);
+            check.due("the argument too", x.sameVar(3, 0), true);
             x.newVar(4);
             check.due("bind to the third", order == 0 ? x.bind(1, 4) : x.bind(4, 1), Check.OK);
             check.due("sameVar(4, 0)", x.sameVar(4, 0), true);
-            x.setConst(4, Check.INT, 9);
-            x.bind(4, 0);
-            check.due("all are one variable", x.bind(1, 4), Check.OK);
-            check.dueTerm("the oldest", x, 0, Check.INT, 9, 0, 1);
+            x.setConst(3, Check.INT, 9);
+            check.due("bind the three", x.bind(4, 3), Check.OK);
+            for (int r : new int[] {0, 1, 4}) {
+                check.dueTerm("one of the three", x, r, Check.INT, 9, 0, 1);
+            }
+            x.backtrack();
+            check.dueTerm("the older after backtrack", x, 0, Check.VAR, 0, 0, 1);
+            x.newVar(1);
+            check.due("a new variable is another", x.sameVar(0, 1), false);
         }
     }
 
-    private static void bindsWholeChains() {
+    private static void bindsManyToOne() {
         LogicHeapCollector x = new LogicHeapCollector(4, 240);
         x.newVar(0);
         x.move(1, 0);
@@ -95,10 +103,35 @@ final class BindTest {
             x.move(1, 2);
         }
         check.due("used()", x.used(), 240);
-        check.due("the end of the chain", x.sameVar(0, 2), true);
+        check.due("the first and the last", x.sameVar(0, 2), true);
         check.due("bind(2, 3)", x.bind(2, 3), Check.OK);
-        check.dueTerm("the start of the chain", x, 0, Check.ATOM, 0, 0, 1);
-        check.dueTerm("the end of the chain", x, 2, Check.ATOM, 0, 0, 1);
+        check.dueTerm("the first", x, 0, Check.ATOM, 0, 0, 1);
+        check.dueTerm("the last", x, 2, Check.ATOM, 0, 0, 1);
+    }
+
+    /** As many variables as can be kept at hand, each bound while the one before is unbound. */
+    private static void bindsLongChains() {
+        LogicHeapCollector x = new LogicHeapCollector(8, 240);
+        for (int link = 0; link < 29; link++) {
+            x.newVar(1);
+            x.newVar(2);
+            x.newVar(3);
+            x.build(0, 1, 4, 0);
+        }
+        x.move(7, 3);
+        for (int link = 0; link < 29; link++) {
+            for (int k = 4; k >= 2; k--) {
+                x.getArg(6, 0, k);
+                check.due("bind to the one before", x.bind(7, 6), Check.OK);
+                x.move(7, 6);
+            }
+            x.getArg(0, 0, 1);
+        }
+        check.due("the chain's ends", x.sameVar(3, 7), true);
+        check.due("kind(3)", x.kind(3), Check.VAR);
+        x.setConst(0, Check.INT, 12);
+        check.due("bind the oldest", x.bind(7, 0), Check.OK);
+        check.dueTerm("the youngest", x, 3, Check.INT, 12, 0, 1);
     }
 
     private static void agesFollowTheCallsAfterBacktracking() {

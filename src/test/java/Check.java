@@ -33,6 +33,19 @@ final class Check {
         due("state after " + call, state(x), before);
     }
 
+    /** Six roots with a term of every kind, unbound variables and a bound one. */
+    static LogicHeapCollector mixed() {
+        LogicHeapCollector x = new LogicHeapCollector(6, 64);
+        x.newVar(0);
+        x.newVar(1);
+        x.setConst(2, ATOM, 7);
+        x.setConst(3, INT, -7);
+        x.build(4, 8, 4, 0);
+        x.newVar(5);
+        x.bind(5, 4);
+        return x;
+    }
+
     /** Everything that the getters show. */
     static String state(LogicHeapCollector x) {
         StringBuilder text = new StringBuilder("used " + x.used());
@@ -64,6 +77,10 @@ final class Check {
                 x.build(1, 1, 1, 1);
             }
         }
+    }
+
+    boolean allDue() {
+        return wrong == 0;
     }
 
     void finish() {

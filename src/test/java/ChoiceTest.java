@@ -40,14 +40,14 @@ final class ChoiceTest {
     }
 
     private static void pushChangesNothing() {
-        LogicHeapCollector x = mixed();
+        LogicHeapCollector x = Check.mixed();
         String before = Check.state(x);
         check.due("pushChoice()", x.pushChoice(), true);
         check.dueUnchanged("pushChoice()", x, before);
     }
 
     private static void backtrackUndoesEverything() {
-        LogicHeapCollector x = mixed();
+        LogicHeapCollector x = Check.mixed();
         String before = Check.state(x);
         x.pushChoice();
         x.bind(0, 1);
@@ -65,7 +65,7 @@ final class ChoiceTest {
     }
 
     private static void backtrackStaysAndRepeats() {
-        LogicHeapCollector x = mixed();
+        LogicHeapCollector x = Check.mixed();
         String before = Check.state(x);
         x.pushChoice();
         for (int round = 0; round < 5; round++) {
@@ -155,7 +155,7 @@ final class ChoiceTest {
     }
 
     private static void popKeepsTheTermState() {
-        LogicHeapCollector x = mixed();
+        LogicHeapCollector x = Check.mixed();
         x.pushChoice();
         x.bind(0, 1);
         x.setConst(2, Check.ATOM, 61);
@@ -169,7 +169,7 @@ final class ChoiceTest {
     }
 
     private static void popLeavesTheOlderSnapshot() {
-        LogicHeapCollector x = mixed();
+        LogicHeapCollector x = Check.mixed();
         String before = Check.state(x);
         x.pushChoice();
         x.bind(0, 1);
@@ -188,7 +188,7 @@ final class ChoiceTest {
     }
 
     private static void refusesWithoutChoice() {
-        LogicHeapCollector x = mixed();
+        LogicHeapCollector x = Check.mixed();
         String before = Check.state(x);
         check.due("backtrack() on none", x.backtrack(), false);
         check.due("popChoice() on none", x.popChoice(), false);
@@ -215,18 +215,5 @@ final class ChoiceTest {
             x.popChoice();
         }
         check.dueUnchanged("eight full snapshots", x, before);
-    }
-
-    /** Two unbound variables, a structure over them, and a variable bound to it. */
-    private static LogicHeapCollector mixed() {
-        LogicHeapCollector x = new LogicHeapCollector(6, 64);
-        x.newVar(0);
-        x.newVar(1);
-        x.setConst(2, Check.ATOM, 7);
-        x.setConst(3, Check.INT, -7);
-        x.build(4, 8, 4, 0);
-        x.newVar(5);
-        x.bind(5, 4);
-        return x;
     }
 }

@@ -35,7 +35,7 @@ final class CreationTest {
     }
 
     private static void setConstRefuses() {
-        LogicHeapCollector x = mixed();
+        LogicHeapCollector x = Check.mixed();
         for (int r : Check.NO_ROOTS) {
             setConstRefused(x, r, Check.ATOM, 5);
             setConstRefused(x, r, Check.INT, 5);
@@ -90,7 +90,7 @@ final class CreationTest {
     }
 
     private static void newVarRefuses() {
-        LogicHeapCollector x = mixed();
+        LogicHeapCollector x = Check.mixed();
         for (int r : Check.NO_ROOTS) {
             newVarRefused(x, r);
         }
@@ -143,7 +143,7 @@ final class CreationTest {
     }
 
     private static void buildRefuses() {
-        LogicHeapCollector x = mixed();
+        LogicHeapCollector x = Check.mixed();
         for (int dst : Check.NO_ROOTS) {
             buildRefused(x, dst, 1, 1, 0);
         }
@@ -222,18 +222,5 @@ final class CreationTest {
         x.setConst(0, Check.ATOM, 1);
         x.getArg(3, 2, 1);
         check.dueTerm("argument 1 outlives its root", x, 3, Check.INT, -3, 0, 1);
-    }
-
-    /** Six roots that hold one term of every kind, so that a refused call has much to harm. */
-    private static LogicHeapCollector mixed() {
-        LogicHeapCollector x = new LogicHeapCollector(6, 64);
-        x.newVar(0);
-        x.newVar(1);
-        x.setConst(2, Check.ATOM, 7);
-        x.setConst(3, Check.INT, -7);
-        x.build(4, 8, 4, 0);
-        x.newVar(5);
-        x.bind(5, 4);
-        return x;
     }
 }

@@ -3,6 +3,7 @@ import java.lang.reflect.Field;
 import java.lang.reflect.Member;
 import java.lang.reflect.Method;
 import java.lang.reflect.Modifier;
+import java.util.List;
 import java.util.TreeSet;
 
 /** The public face is the document's, whole and without any other visible member. */
@@ -10,7 +11,7 @@ final class FaceTest {
     private static final Check check = new Check();
 
     public static void main(String[] args) throws IllegalAccessException {
-        due("visible members", visibleMembers(), new TreeSet<>(java.util.List.of(
+        check.due("visible members", visibleMembers(), new TreeSet<>(List.of(
             "KIND_NONE = 0", "KIND_VAR = 1", "KIND_ATOM = 2", "KIND_INT = 3", "KIND_STRUCT = 4",
             "MAX_NAME = 4095", "MIN_INT = -32768", "MAX_INT = 32767", "MAX_ARITY = 4",
             "MAX_CHOICES = 8", "TREE_LIMIT = 1000", "BIND_OK = 1", "BIND_FAIL = 0",
@@ -23,10 +24,6 @@ final class FaceTest {
         check.due("modifiers", LogicHeapCollector.class.getModifiers(),
             Modifier.PUBLIC | Modifier.FINAL);
         check.finish();
-    }
-
-    private static void due(String what, Object got, Object want) {
-        check.due(what, got, want);
     }
 
     private static TreeSet<String> visibleMembers() throws IllegalAccessException {
