@@ -35,7 +35,7 @@ final class ArityEdgeTest {
         for (int n = 1; n <= 4; n++) {
             for (int f : new int[] {0, 4095}) {
                 LogicHeapCollector x = new LogicHeapCollector(5, 240);
-                while (x.used() + 2 + n <= 240) {
+                for (int made = 0; made < 240 / (2 + n); made++) {
                     x.build(0, f, n, 0);
                     check.due("arity(0)", x.arity(0), n);
                     x.newVar(4);

@@ -46,6 +46,22 @@ final class BacktrackEdgeTest {
             want.set(0, want.get(1));
             check.dueLevels(back, want);
         }
+        // The states as they were at each push, apart from any backtrack.
+        LogicHeapCollector x = new LogicHeapCollector(8, 240);
+        String[] states = new String[8];
+        for (int level = 0; level < 8; level++) {
+            x.newVar(level);
+            x.build((level + 3) % 8, level, 4, level % 5);
+            states[level] = Check.state(x);
+            x.pushChoice();
+            x.setConst((level + 5) % 8, Check.ATOM, level);
+            x.bind(level, (level + 5) % 8);
+        }
+        for (int level = 7; level >= 0; level--) {
+            check.due("backtrack() to level " + level, x.backtrack(), true);
+            check.dueUnchanged("backtrack() to level " + level, x, states[level]);
+            x.popChoice();
+        }
     }
 
     private static void creationsCeaseToExist() {
@@ -73,7 +89,8 @@ final class BacktrackEdgeTest {
     }
 
     private static void bindingsSinceAreUndone() {
-        check.sentence("bindings made since are undone");
+        check.sentence("every older variable is bound exactly as in the snapshot (bindings made "
+            + "since are undone");
         LogicHeapCollector x = new LogicHeapCollector(8, 64);
         for (int r = 0; r < 6; r++) {
             x.newVar(r);
@@ -151,7 +168,7 @@ final class BacktrackEdgeTest {
                 x.newVar(0);
             }
             x.pushChoice();
-            while (x.used() < 16) {
+            for (int made = then; made < 16; made++) {
                 x.newVar(1);
             }
             check.due("backtrack()", x.backtrack(), true);
@@ -178,7 +195,8 @@ final class BacktrackEdgeTest {
     }
 
     private static void againAtOnceChangesNothing() {
-        check.sentence("Calling `backtrack` again at once changes nothing further and answers `true`.");
+        check.sentence("Calling `backtrack` again at once changes nothing further and answers "
+            + "`true`.");
         for (Scene scene : List.of(Scene.mixed(), Scene.fullBudget(), Scene.fullStack())) {
             Scene back = scene.after(Call.backtrack());
             check.keeps(back, Call.backtrack(), true);
@@ -198,14 +216,14 @@ final class BacktrackEdgeTest {
             return x;
         });
         Scene now = then.after(Call.newVar(3), Call.build(4, 6, 1, 3), Call.bind(0, 4),
-            Call.newVar(3), Call.build(4, 7, 2, 3), Call.bind(1, 4), Call.setConst(0, Check.ATOM, 1),
-            Call.setConst(1, Check.ATOM, 1), Call.setConst(3, Check.ATOM, 1),
-            Call.setConst(4, Check.ATOM, 1));
+            Call.newVar(3), Call.build(4, 7, 2, 3), Call.bind(1, 4),
+            Call.setConst(0, Check.ATOM, 1), Call.setConst(1, Check.ATOM, 1),
+            Call.setConst(3, Check.ATOM, 1), Call.setConst(4, Check.ATOM, 1));
         check.due("treeSize(2) over young terms", now.make().treeSize(2), 7);
         check.dueLevels(now.after(Call.backtrack()), then.levels());
         // Other terms in the same cells must not show through.
-        LogicHeapCollector x = now.after(Call.backtrack(), Call.newVar(3), Call.setConst(4,
-            Check.INT, 9), Call.build(4, 8, 2, 3)).make();
+        LogicHeapCollector x = now.after(Call.backtrack(), Call.newVar(3),
+            Call.setConst(4, Check.INT, 9), Call.build(4, 8, 2, 3)).make();
         check.due("kind(0)", x.kind(0), Check.VAR);
         check.due("kind(1)", x.kind(1), Check.VAR);
         check.due("treeSize(2)", x.treeSize(2), 3);

@@ -154,8 +154,8 @@ final class BindEdgeTest {
     }
 
     private static void measuresTheTermAlone() {
-        check.sentence("Otherwise (`T` is an atom, an integer, or a structure in which `V` does not "
-            + "occur): `V` is bound to `T`; answers `BIND_OK`.");
+        check.sentence("Otherwise (`T` is an atom, an integer, or a structure in which `V` does "
+            + "not occur): `V` is bound to `T`; answers `BIND_OK`.");
         LogicHeapCollector x = new LogicHeapCollector(6, 240);
         x.setConst(0, Check.ATOM, 1);
         Check.grow(x, 1000);
@@ -172,8 +172,8 @@ final class BindEdgeTest {
     }
 
     private static void refusesAboveTheLimitEvenIfTheVariableOccurs() {
-        check.sentence("in particular a `T` of tree size above `TREE_LIMIT` is refused even when `V` "
-            + "occurs in it");
+        check.sentence("in particular a `T` of tree size above `TREE_LIMIT` is refused even when "
+            + "`V` occurs in it");
         for (int size : NEAR_LIMIT) {
             Scene within = new Scene("the variable within a tree of size " + size, 3, () -> {
                 LogicHeapCollector x = new LogicHeapCollector(3, 240);
@@ -201,8 +201,8 @@ final class BindEdgeTest {
     }
 
     private static void refusesSizesBeyondInt() {
-        check.sentence("a size beyond the int range is still above `TREE_LIMIT`, and the call is "
-            + "refused");
+        check.sentence("The tree size in (4) is the true mathematical size, as in Promise 16; a "
+            + "size beyond the int range is still above `TREE_LIMIT`, and the call is refused.");
         for (BigInteger size : Check.hugeSizes()) {
             for (int leaf = 0; leaf < 2; leaf++) {
                 int kind = leaf;
@@ -254,9 +254,11 @@ final class BindEdgeTest {
         check.keeps(Scene.fullBudget(), Call.bind(1, 1), Check.OK);
     }
 
+    /** No call shows which way the binding goes; all show that the two are one, and unbound. */
     private static void twoVariablesBecomeTheOlder() {
-        check.sentence("Afterwards roots `v` and `t` both dereference to the older variable, which "
-            + "stays unbound.");
+        check.sentence("the younger of `V` and `W` is bound to the older; answers `BIND_OK`. "
+            + "Afterwards roots `v` and `t` both dereference to the older variable, which stays "
+            + "unbound.");
         for (int between = 0; between <= 3; between++) {
             for (int order = 0; order < 2; order++) {
                 olderStays(between, order);
@@ -338,7 +340,8 @@ final class BindEdgeTest {
     }
 
     private static void looksDeepAndThroughBindings() {
-        check.sentence("is reached when `T` and its arguments are walked, dereferencing at every step");
+        check.sentence("is reached when `T` and its arguments are walked, dereferencing at every "
+            + "step");
         LogicHeapCollector x = new LogicHeapCollector(4, 240);
         x.newVar(0);
         x.move(1, 0);
@@ -346,9 +349,9 @@ final class BindEdgeTest {
         x.bind(2, 0);
         x.move(1, 2);
         // Every level is an argument that is a variable bound to the level within.
-        while (x.used() + 3 <= 240) {
+        for (int level = 1; level <= 79; level++) {
             x.build(1, 5, 1, 1);
-            check.due("bind(0, 1) at used() " + x.used(), x.bind(0, 1), Check.FAIL);
+            check.due("bind(0, 1) at level " + level, x.bind(0, 1), Check.FAIL);
             check.due("kind(0)", x.kind(0), Check.VAR);
             x.newVar(3);
             check.due("bind(3, 1)", x.bind(3, 1), Check.OK);
@@ -390,8 +393,8 @@ final class BindEdgeTest {
     }
 
     private static void isSeenEverywhere() {
-        check.sentence("A binding is seen through every root and every argument that holds the bound "
-            + "variable.");
+        check.sentence("A binding is seen through every root and every argument that holds the "
+            + "bound variable.");
         LogicHeapCollector x = new LogicHeapCollector(8, 64);
         for (int r = 0; r < 8; r++) {
             x.newVar(0);
@@ -446,8 +449,9 @@ final class BindEdgeTest {
     }
 
     private static void changesNothingElse() {
-        check.sentence("Unchanged: `used()`, the term held by every root, every variable other than "
-            + "the one that the call binds (if any) and every existing binding, the choice points.");
+        check.sentence("Unchanged: `used()`, the term held by every root, every variable other "
+            + "than the one that the call binds (if any) and every existing binding, the choice "
+            + "points.");
         Scene mixed = Scene.mixed();
         Scene bound = mixed.after(Call.bind(5, 3));
         check.due("used()", bound.make().used(), mixed.make().used());

@@ -78,7 +78,7 @@ final class BuildEdgeTest {
                 taken(roots, 0, 1, n, 0);
                 taken(roots, 0, 1, n, roots - n);
                 for (int first : new int[] {-1, -2, -n, roots - n + 1, roots - n + 2, roots, 8, 256,
-                    65536, 1 << 30, MIN, MIN + 1, MAX - n - 1, MAX - n, MAX - n + 1, MAX - 1, MAX}) {
+                    65536, 1 << 30, MIN, MIN + 1, MAX - n, MAX - n + 1, MAX - 1, MAX}) {
                     check.refuses(scene, Call.build(0, 1, n, first));
                 }
             }
@@ -156,7 +156,7 @@ final class BuildEdgeTest {
 
     private static LogicHeapCollector withRoom(int budget, int room) {
         LogicHeapCollector x = new LogicHeapCollector(4, budget);
-        while (x.used() < budget - room) {
+        for (int made = 0; made < budget - room; made++) {
             x.newVar(0);
         }
         for (int r = 0; r < 4; r++) {
@@ -166,8 +166,8 @@ final class BuildEdgeTest {
     }
 
     private static void readsTheRootsAtTheStart() {
-        check.sentence("`ti` is the term held by root `first+i-1` at the start of the call (`dst` may "
-            + "be among these roots)");
+        check.sentence("`ti` is the term held by root `first+i-1` at the start of the call (`dst` "
+            + "may be among these roots)");
         for (int first = 0; first <= 2; first++) {
             for (int n = 1; n <= 4; n++) {
                 for (int dst = 0; dst < 6; dst++) {
@@ -240,8 +240,8 @@ final class BuildEdgeTest {
     }
 
     private static void changesOneRootOnly() {
-        check.sentence("Unchanged: every root other than `dst`, every variable and binding, the choice "
-            + "points.");
+        check.sentence("Unchanged: every root other than `dst`, every variable and binding, the "
+            + "choice points.");
         for (Scene scene : Scene.all()) {
             for (int n = 1; n <= 4 && n <= scene.roots; n++) {
                 for (int dst = 0; dst < scene.roots && scene.make().build(0, 1, n, 0); dst++) {

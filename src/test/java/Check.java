@@ -16,6 +16,8 @@ final class Check {
     /** Numbers outside the range of the valid roots of any object. */
     static final int[] NO_ROOTS = {-1, 8, 9, 256, Integer.MIN_VALUE, Integer.MAX_VALUE};
 
+    private static final int MOST_SHOWN = 200;
+
     private int wrong = 0;
     private String sentence = "";
 
@@ -27,7 +29,9 @@ final class Check {
     void due(String call, Object got, Object want) {
         if (!got.equals(want)) {
             wrong++;
-            System.out.println(call + " answered " + got + ", due is " + want + quoted());
+            if (wrong <= MOST_SHOWN) {
+                System.out.println(call + " answered " + got + ", due is " + want + quoted());
+            }
         }
     }
 

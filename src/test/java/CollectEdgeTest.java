@@ -49,7 +49,9 @@ final class CollectEdgeTest {
     }
 
     private static void changesNoLaterAnswer() {
-        check.sentence("It changes no answer of any later call");
+        check.sentence("a fresh object running `P`, then `collect()`, then `Q`, and a fresh object "
+            + "built with the same arguments running `P`, then `Q`, give the same answer to every "
+            + "call of `Q`");
         for (Scene scene : scenes()) {
             for (Call call : everyKindOfCall(scene.roots)) {
                 Scene collected = scene.after(Call.collect());
@@ -111,7 +113,8 @@ final class CollectEdgeTest {
     }
 
     private static void keepsWhatOnlySnapshotsReach() {
-        check.sentence("terms that no root, no snapshot and no possible future backtracking can reach");
+        check.sentence("terms that no root, no snapshot and no possible future backtracking can "
+            + "reach");
         Scene scene = Scene.fullStack();
         for (int r = 0; r < scene.roots; r++) {
             scene = scene.after(Call.setConst(r, Check.ATOM, 1));
@@ -128,12 +131,12 @@ final class CollectEdgeTest {
         LogicHeapCollector x = new LogicHeapCollector(2, 240);
         x.newVar(0);
         x.newVar(1);
-        while (x.used() + 2 <= 240) {
-            x.build(0, x.used(), 1, 0);
+        for (int level = 1; level <= 119; level++) {
+            x.build(0, level, 1, 0);
             x.collect();
         }
-        for (int level = 0; level < 119; level++) {
-            check.due("value(0)", x.value(0), 238 - 2 * level);
+        for (int level = 119; level >= 1; level--) {
+            check.due("value(0)", x.value(0), level);
             x.getArg(0, 0, 1);
             x.collect();
         }

@@ -53,7 +53,8 @@ final class ConstructorEdgeTest {
     }
 
     private static void smallBudgetsBecomeSixteen() {
-        check.sentence("`B` is `budget` clamped into `MIN_BUDGET..MAX_BUDGET`: below 16 becomes 16");
+        check.sentence("`B` is `budget` clamped into `MIN_BUDGET..MAX_BUDGET`: below 16 becomes "
+            + "16");
         for (int budget : new int[] {15, 14, 1, 0, -1, -16, -100, MIN + 100, MIN + 1, MIN}) {
             budgetIs(budget, 16);
         }

@@ -38,8 +38,8 @@ final class GetArgEdgeTest {
     }
 
     private static void refusesWhatIsNoStructure() {
-        check.sentence("If root `src` dereferences to an unbound variable, an atom or an integer, the "
-            + "call is refused at (3)");
+        check.sentence("If root `src` dereferences to an unbound variable, an atom or an integer, "
+            + "the call is refused at (3)");
         Scene scene = new Scene("roots without a structure", 7, () -> {
             LogicHeapCollector x = new LogicHeapCollector(7, 32);
             x.setConst(0, Check.ATOM, 1);
@@ -98,8 +98,8 @@ final class GetArgEdgeTest {
     }
 
     private static void sharesTheArgument() {
-        check.sentence("root `dst` holds the `k`-th argument of that structure, shared as it is stored "
-            + "in the structure");
+        check.sentence("root `dst` holds the `k`-th argument of that structure, shared as it is "
+            + "stored in the structure");
         LogicHeapCollector x = new LogicHeapCollector(6, 32);
         x.newVar(0);
         x.newVar(1);
@@ -129,8 +129,8 @@ final class GetArgEdgeTest {
     }
 
     private static void changesOneRootOnly() {
-        check.sentence("Unchanged: `used()`, every other root, the structure itself, every variable "
-            + "and binding, the choice points.");
+        check.sentence("Unchanged: `used()`, every other root, the structure itself, every "
+            + "variable and binding, the choice points.");
         for (Scene scene : Scene.all()) {
             for (int src = 0; src < scene.roots; src++) {
                 int arity = scene.make().arity(src);

@@ -107,7 +107,7 @@ final class GetterTest {
     private static void treeSizeOfTowers(int n) {
         LogicHeapCollector x = new LogicHeapCollector(4, 240);
         int size = 1;
-        while (x.used() + 1 + n <= 240) {
+        for (int level = 1; level <= 240 / (1 + n); level++) {
             for (int r = 1; r < n; r++) {
                 x.move(r, 0);
             }

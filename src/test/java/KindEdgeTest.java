@@ -32,8 +32,8 @@ final class KindEdgeTest {
     }
 
     private static void answersTheKindOfEachTerm() {
-        check.sentence("Otherwise it answers the kind of the dereferenced term of root `r`: `KIND_VAR` "
-            + "(an unbound variable), `KIND_ATOM`, `KIND_INT` or `KIND_STRUCT`.");
+        check.sentence("Otherwise it answers the kind of the dereferenced term of root `r`: "
+            + "`KIND_VAR` (an unbound variable), `KIND_ATOM`, `KIND_INT` or `KIND_STRUCT`.");
         LogicHeapCollector x = new LogicHeapCollector(8, 32);
         int[] kinds = {Check.VAR, Check.ATOM, Check.INT, Check.STRUCT};
         x.newVar(0);

@@ -83,8 +83,8 @@ final class MoveEdgeTest {
     }
 
     private static void changesOneRootOnly() {
-        check.sentence("Unchanged: `used()`, every other root, every variable and binding, the choice "
-            + "points.");
+        check.sentence("Unchanged: `used()`, every other root, every variable and binding, the "
+            + "choice points.");
         for (Scene scene : Scene.all()) {
             for (int dst = 0; dst < scene.roots; dst++) {
                 for (int src = 0; src < scene.roots; src++) {

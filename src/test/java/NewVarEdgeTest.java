@@ -60,10 +60,10 @@ final class NewVarEdgeTest {
     private static LogicHeapCollector filled(int budget, int used) {
         LogicHeapCollector x = new LogicHeapCollector(3, budget);
         x.setConst(2, Check.INT, -1);
-        while (x.used() + 4 <= used) {
-            x.build(2, x.used(), 3, 0);
+        for (int made = 0; made < used / 4; made++) {
+            x.build(2, made, 3, 0);
         }
-        while (x.used() < used) {
+        for (int made = 0; made < used % 4; made++) {
             x.newVar(0);
         }
         return x;
@@ -89,6 +89,7 @@ final class NewVarEdgeTest {
         }
     }
 
+    /** No call tells ages; what shows is that bound together they are one unbound variable. */
     private static void isTheYoungest() {
         check.sentence("it is the youngest variable");
         LogicHeapCollector x = new LogicHeapCollector(8, 16);
@@ -114,8 +115,8 @@ final class NewVarEdgeTest {
     }
 
     private static void changesOneRootOnly() {
-        check.sentence("Unchanged: every other root, every existing variable and binding, the choice "
-            + "points.");
+        check.sentence("Unchanged: every other root, every existing variable and binding, the "
+            + "choice points.");
         for (Scene scene : Scene.all()) {
             if (scene.make().newVar(0)) {
                 for (int r = 0; r < scene.roots; r++) {

@@ -45,9 +45,10 @@ final class PopChoiceEdgeTest {
     }
 
     private static void theOneBelowBecomesTheTop() {
-        check.sentence("the top choice point is removed; the one below it (if any) becomes the top");
+        check.sentence("the top choice point is removed; the one below it (if any) becomes the "
+            + "top");
         Scene scene = Scene.fullStack();
-        while (scene.levels().size() > 1) {
+        for (int left = 8; left >= 1; left--) {
             Scene popped = scene.after(Call.popChoice());
             check.due(scene.name + ": popChoice()", scene.make().popChoice(), true);
             List<String> want = new ArrayList<>(scene.levels());

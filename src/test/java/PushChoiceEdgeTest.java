@@ -48,8 +48,8 @@ final class PushChoiceEdgeTest {
     }
 
     private static void savesTheTermState() {
-        check.sentence("the term held by every root, for every existing variable whether it is bound "
-            + "and to what, and `used()`");
+        check.sentence("the term held by every root, for every existing variable whether it is "
+            + "bound and to what, and `used()`");
         for (Scene scene : List.of(Scene.fresh(), Scene.mixed(), Scene.fullBudget())) {
             Scene pushed = scene.after(Call.pushChoice());
             Call[] changes = {Call.setConst(0, Check.ATOM, 99), Call.newVar(1), Call.bind(1, 0),

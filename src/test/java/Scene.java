@@ -12,7 +12,8 @@ final class Scene {
     private static final int DEPTH = 3;
     private static final int NO_ROOT = -1;
     /** More than any object has; a broken class must not keep a look from ending. */
-    private static final int ENOUGH = 300;
+    private static final int MANY_CELLS = 300;
+    private static final int MANY_CHOICES = 12;
 
     final String name;
     final int roots;
@@ -47,7 +48,7 @@ final class Scene {
     List<String> levels() {
         if (levels == null) {
             levels = new ArrayList<>();
-            for (int level = 0; level < ENOUGH && at(level) != null; level++) {
+            for (int level = 0; level < MANY_CHOICES && at(level) != null; level++) {
                 levels.add("used " + at(level).used() + ", " + variablesThatFit(level)
                     + " variables fit" + terms(level, NO_ROOT));
             }
@@ -63,7 +64,7 @@ final class Scene {
     int choicesThatFit() {
         LogicHeapCollector x = make();
         int count = 0;
-        while (count < ENOUGH && x.pushChoice()) {
+        while (count < MANY_CHOICES && x.pushChoice()) {
             count++;
         }
         return count;
@@ -72,7 +73,7 @@ final class Scene {
     private int variablesThatFit(int level) {
         LogicHeapCollector x = at(level);
         int count = 0;
-        while (count < ENOUGH && x.newVar(0)) {
+        while (count < MANY_CELLS && x.newVar(0)) {
             count++;
         }
         return count;

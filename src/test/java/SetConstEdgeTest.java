@@ -62,8 +62,8 @@ final class SetConstEdgeTest {
     }
 
     private static void boundsAreTaken() {
-        check.sentence("Bounds are inclusive: atom 0, atom `MAX_NAME`, integer `MIN_INT` and integer "
-            + "`MAX_INT` are accepted");
+        check.sentence("Bounds are inclusive: atom 0, atom `MAX_NAME`, integer `MIN_INT` and "
+            + "integer `MAX_INT` are accepted");
         for (Scene scene : Scene.all()) {
             taken(scene, Check.ATOM, 0);
             taken(scene, Check.ATOM, 1);

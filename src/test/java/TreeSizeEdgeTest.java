@@ -46,13 +46,15 @@ final class TreeSizeEdgeTest {
             x.setConst(0, Check.INT, v);
             check.due("treeSize of integer " + v, x.treeSize(0), 1);
         }
-        while (x.newVar(1)) {
+        for (int made = 0; made < 240; made++) {
+            x.newVar(1);
             check.due("treeSize of a variable", x.treeSize(1), 1);
         }
     }
 
     private static void answersEverySizeUpToTheLimit() {
-        check.sentence("the tree size of the term of root `r` if that size is at most `TREE_LIMIT`");
+        check.sentence("the tree size of the term of root `r` if that size is at most "
+            + "`TREE_LIMIT`");
         for (int size = 1; size <= 1000; size++) {
             LogicHeapCollector x = new LogicHeapCollector(3, 240);
             Check.grow(x, size);
@@ -86,8 +88,8 @@ final class TreeSizeEdgeTest {
     }
 
     private static void staysOneAboveBeyondInt() {
-        check.sentence("even beyond the int range; the answer is still exactly `TREE_LIMIT + 1` and is "
-            + "never affected by int wrap-around");
+        check.sentence("even beyond the int range; the answer is still exactly `TREE_LIMIT + 1` "
+            + "and is never affected by int wrap-around");
         for (BigInteger size : Check.hugeSizes()) {
             for (int leaf = 0; leaf < 2; leaf++) {
                 LogicHeapCollector x = new LogicHeapCollector(4, 240);
@@ -128,7 +130,7 @@ final class TreeSizeEdgeTest {
         for (int n = 1; n <= 4; n++) {
             LogicHeapCollector x = new LogicHeapCollector(4, 240);
             BigInteger size = BigInteger.ONE;
-            while (x.used() + 1 + n <= 240) {
+            for (int level = 1; level <= 240 / (1 + n); level++) {
                 for (int r = 1; r < n; r++) {
                     x.move(r, 0);
                 }

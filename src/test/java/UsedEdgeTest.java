@@ -81,8 +81,9 @@ final class UsedEdgeTest {
     private static void isKeptByEveryOtherCall() {
         check.sentence("is not changed by `collect`, `bind`, `setConst`, `move`, `getArg`, "
             + "`pushChoice`, `popChoice`, the getters");
-        List<Call> calls = List.of(Call.collect(), Call.bind(0, 5), Call.bind(5, 4), Call.bind(6, 6),
-            Call.bind(0, 0), Call.setConst(0, Check.ATOM, 1), Call.setConst(4, Check.INT, 1),
+        List<Call> calls = List.of(Call.collect(), Call.bind(0, 5), Call.bind(5, 4),
+            Call.bind(6, 6), Call.bind(0, 0), Call.setConst(0, Check.ATOM, 1),
+            Call.setConst(4, Check.INT, 1),
             Call.move(0, 4), Call.move(4, 0), Call.getArg(0, 4, 1), Call.getArg(3, 3, 2),
             Call.pushChoice(), Call.popChoice(), Call.kind(0), Call.value(4), Call.arity(3),
             Call.sameVar(5, 6), Call.treeSize(3), Call.used());

@@ -55,7 +55,7 @@ final class ValueEdgeTest {
         for (int f : new int[] {0, 1, 2, 7, 8, 2047, 2048, 4094, 4095}) {
             for (int n = 1; n <= 4; n++) {
                 LogicHeapCollector x = new LogicHeapCollector(4, 240);
-                while (x.used() + 1 + n <= 240) {
+                for (int made = 0; made < 240 / (1 + n); made++) {
                     x.build(0, f, n, 0);
                     check.due("value(0)", x.value(0), f);
                 }

@@ -12,6 +12,7 @@ final class WordsEdgeTest {
     private record Shape(int[] good, int[][] ranges, Object refusal, Function<int[], Call> call) { }
 
     public static void main(String[] args) {
+        constantsKeepTheirRanges();
         structuresKeepEveryNameAndArity();
         validRootsAreTheFirstOnes();
         dereferencingAlwaysEnds();
@@ -19,14 +20,29 @@ final class WordsEdgeTest {
         creationsPastTheBudgetAreRefused();
         severalBadArgumentsAreRefused();
         refusedCallsChangeNothing();
+        gettersAnswerForNoRoot();
         extremesAreOutsideEveryRange();
         wrapAroundLetsNothingPass();
         check.finish();
     }
 
+    private static void constantsKeepTheirRanges() {
+        check.sentence("an atom `a` with `0 <= a <= MAX_NAME`; an integer `i` with "
+            + "`MIN_INT <= i <= MAX_INT`");
+        LogicHeapCollector x = new LogicHeapCollector(2, 16);
+        for (int v = -70000; v <= 70000; v++) {
+            boolean atom = 0 <= v && v <= 4095;
+            boolean integer = -32768 <= v && v <= 32767;
+            check.due("setConst(0, ATOM, " + v + ")", x.setConst(0, Check.ATOM, v), atom);
+            check.due("kind(0) and value(0)", x.kind(0) == Check.ATOM && x.value(0) == v, atom);
+            check.due("setConst(0, INT, " + v + ")", x.setConst(0, Check.INT, v), integer);
+            check.due("kind(0) and value(0)", x.kind(0) == Check.INT && x.value(0) == v, integer);
+        }
+    }
+
     private static void structuresKeepEveryNameAndArity() {
-        check.sentence("a structure `f(t1..tn)` with functor name `f` (`0 <= f <= MAX_NAME`), arity "
-            + "`n` (`1 <= n <= MAX_ARITY`) and argument terms `t1..tn`");
+        check.sentence("a structure `f(t1..tn)` with functor name `f` (`0 <= f <= MAX_NAME`), "
+            + "arity `n` (`1 <= n <= MAX_ARITY`) and argument terms `t1..tn`");
         LogicHeapCollector x = new LogicHeapCollector(4, 16);
         x.pushChoice();
         for (int f = 0; f <= 4095; f++) {
@@ -88,8 +104,8 @@ final class WordsEdgeTest {
     }
 
     private static void creationsUseTheirCells() {
-        check.sentence("Creating a variable uses 1 cell; creating a structure of arity `n` uses `1+n` "
-            + "cells; constants use none.");
+        check.sentence("Creating a variable uses 1 cell; creating a structure of arity `n` uses "
+            + "`1+n` cells; constants use none.");
         LogicHeapCollector x = new LogicHeapCollector(4, 64);
         int[] want = {1, 2, 4, 7, 11, 16, 16, 16};
         Call[] calls = {Call.newVar(0), Call.newVar(1), Call.build(2, 1, 1, 0),
@@ -107,8 +123,8 @@ final class WordsEdgeTest {
             int left = room;
             Scene scene = new Scene("room for " + room, 4, () -> {
                 LogicHeapCollector x = new LogicHeapCollector(4, 16);
-                while (x.used() < 16 - left) {
-                    x.newVar(x.used() % 4);
+                for (int made = 0; made < 16 - left; made++) {
+                    x.newVar(made % 4);
                 }
                 return x;
             });
@@ -125,8 +141,8 @@ final class WordsEdgeTest {
     }
 
     private static void severalBadArgumentsAreRefused() {
-        check.sentence("they are examined in the order listed, and the first one that fails refuses "
-            + "the call");
+        check.sentence("they are examined in the order listed, and the first one that fails "
+            + "refuses the call");
         for (Scene scene : Scene.all()) {
             for (int bad : new int[] {MIN, -1, 4096, 65536, MAX}) {
                 List<Call> calls = List.of(Call.setConst(bad, bad, bad),
@@ -144,8 +160,8 @@ final class WordsEdgeTest {
     }
 
     private static void refusedCallsChangeNothing() {
-        check.sentence("A refused call changes nothing at all (no root, no variable, no binding, no "
-            + "choice point, not `used()`). It answers `false` for a boolean answer and "
+        check.sentence("A refused call changes nothing at all (no root, no variable, no binding, "
+            + "no choice point, not `used()`). It answers `false` for a boolean answer and "
             + "`BIND_REFUSED` for `bind`");
         for (Scene scene : Scene.all()) {
             int past = scene.roots;
@@ -167,6 +183,18 @@ final class WordsEdgeTest {
         check.refuses(Scene.fullStack(), Call.pushChoice());
         check.refuses(Scene.fresh(), Call.backtrack());
         check.refuses(Scene.fresh(), Call.popChoice());
+    }
+
+    private static void gettersAnswerForNoRoot() {
+        check.sentence("getters state their own answer");
+        for (Scene scene : Scene.all()) {
+            int past = scene.roots;
+            check.keeps(scene, Call.kind(past), Check.NONE);
+            check.keeps(scene, Call.value(past), 0);
+            check.keeps(scene, Call.arity(past), 0);
+            check.keeps(scene, Call.sameVar(past, past), false);
+            check.keeps(scene, Call.treeSize(past), 0);
+        }
     }
 
     /** Calls on the mixed scene, whose root 3 is a structure of arity 2. */
@@ -199,8 +227,8 @@ final class WordsEdgeTest {
     }
 
     private static void extremesAreOutsideEveryRange() {
-        check.sentence("any argument value, including `Integer.MIN_VALUE` and `Integer.MAX_VALUE`, is "
-            + "simply inside or outside its range");
+        check.sentence("any argument value, including `Integer.MIN_VALUE` and `Integer.MAX_VALUE`, "
+            + "is simply inside or outside its range");
         for (Shape shape : shapes()) {
             for (int place = 0; place < shape.good().length; place++) {
                 for (int extreme : new int[] {MIN, MIN + 1, MAX - 1, MAX}) {
