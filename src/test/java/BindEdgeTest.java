@@ -215,17 +215,15 @@ final class BindEdgeTest {
                     x.setConst(2, Check.ATOM, 0);
                     return x;
                 });
-                refusedWithTheSameState(scene, Call.bind(3, 1));
-                refusedWithTheSameState(scene, Call.bind(0, 1));
+                refusedAndStillUnbound(scene, Call.bind(3, 1));
+                refusedAndStillUnbound(scene, Call.bind(0, 1));
             }
         }
     }
 
-    /** The terms are too wide here to look into every argument. */
-    private static void refusedWithTheSameState(Scene scene, Call call) {
-        LogicHeapCollector x = scene.make();
-        check.due(scene.name + ": " + call.text(), call.on(x), Check.REFUSED);
-        check.dueUnchanged(call.text(), x, Check.state(scene.make()));
+    private static void refusedAndStillUnbound(Scene scene, Call call) {
+        check.refuses(scene, call);
+        LogicHeapCollector x = scene.after(call).make();
         check.due(scene.name + ": bind(3, 4)", x.bind(3, 4), Check.OK);
         check.due(scene.name + ": bind(4, 2)", x.bind(4, 2), Check.OK);
         check.dueTerm("the variable", x, 3, Check.ATOM, 0, 0, 1);
