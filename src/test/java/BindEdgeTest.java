@@ -14,6 +14,7 @@ final class BindEdgeTest {
         measuresTheTermAlone();
         refusesAboveTheLimitEvenIfTheVariableOccurs();
         refusesSizesBeyondInt();
+        exactlyOneCaseApplies();
         toItselfChangesNothing();
         twoVariablesBecomeTheOlder();
         failsIfTheVariableOccurs();
@@ -227,6 +228,50 @@ final class BindEdgeTest {
         check.due(scene.name + ": bind(3, 4)", x.bind(3, 4), Check.OK);
         check.due(scene.name + ": bind(4, 2)", x.bind(4, 2), Check.OK);
         check.dueTerm("the variable", x, 3, Check.ATOM, 0, 0, 1);
+    }
+
+    private static void exactlyOneCaseApplies() {
+        check.sentence("Then exactly one case applies");
+        // Roots: 0 V, 1 V through a younger variable, 2 another variable, 3 f(V), 4 f(Y) with Y
+        // bound to f(V), 5 an atom, 6 an integer, 7 g(W) over the variable in root 2.
+        Scene scene = new Scene("a root for every case", 8, () -> {
+            LogicHeapCollector x = new LogicHeapCollector(8, 64);
+            x.newVar(0);
+            x.newVar(2);
+            x.build(7, 2, 1, 2);
+            x.build(3, 1, 1, 0);
+            x.newVar(1);
+            x.build(4, 1, 1, 1);
+            x.bind(1, 3);
+            x.newVar(1);
+            x.bind(1, 0);
+            x.setConst(5, Check.ATOM, 0);
+            x.setConst(6, Check.INT, -1);
+            return x;
+        });
+        for (int v = 0; v <= 1; v++) {
+            check.keeps(scene, Call.bind(v, 0), Check.OK);
+            check.keeps(scene, Call.bind(v, 1), Check.OK);
+            check.keeps(scene, Call.bind(v, 3), Check.FAIL);
+            check.keeps(scene, Call.bind(v, 4), Check.FAIL);
+            oneCase(scene, v, 2, Check.VAR, 0, 0, 1);
+            oneCase(scene, v, 5, Check.ATOM, 0, 0, 1);
+            oneCase(scene, v, 6, Check.INT, -1, 0, 1);
+            oneCase(scene, v, 7, Check.STRUCT, 2, 1, 2);
+        }
+    }
+
+    private static void oneCase(Scene scene, int v, int t, int... term) {
+        LogicHeapCollector x = scene.make();
+        int used = x.used();
+        check.due("bind(" + v + ", " + t + ")", x.bind(v, t), Check.OK);
+        check.dueTerm("the variable", x, 0, term);
+        check.dueTerm("through the younger one", x, 1, term);
+        check.dueTerm("the term", x, t, term);
+        check.due("sameVar(0, 2)", x.sameVar(0, 2), t == 2);
+        check.due("treeSize(3)", x.treeSize(3), 1 + term[3]);
+        check.due("treeSize(4)", x.treeSize(4), 2 + term[3]);
+        check.due("used()", x.used(), used);
     }
 
     private static void toItselfChangesNothing() {

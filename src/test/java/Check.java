@@ -1,5 +1,6 @@
 import java.math.BigInteger;
 import java.util.ArrayList;
+import java.util.Arrays;
 import java.util.List;
 
 /** Collects the calls whose answers are not the ones that are due. */
@@ -32,6 +33,13 @@ final class Check {
             if (wrong <= MOST_SHOWN) {
                 System.out.println(call + " answered " + got + ", due is " + want + quoted());
             }
+        }
+    }
+
+    /** As due, for checks by the million: the text is put together only if the answer is wrong. */
+    void dueFast(String where, Object got, Object want, String method, int... arguments) {
+        if (!got.equals(want)) {
+            due(where + ": " + method + Arrays.toString(arguments), got, want);
         }
     }
 

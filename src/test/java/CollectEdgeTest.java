@@ -9,6 +9,7 @@ final class CollectEdgeTest {
         changesNothing();
         keepsTheNumberOfCells();
         changesNoLaterAnswer();
+        changesNoAnswerAfterOtherCalls();
         anyNumberOfCalls();
         keepsWhatOnlySnapshotsReach();
         keepsWhatOnlyArgumentsReach();
@@ -60,6 +61,30 @@ final class CollectEdgeTest {
                 check.dueLevels(collected.after(call, Call.collect()), scene.after(call).levels());
             }
         }
+    }
+
+    private static void changesNoAnswerAfterOtherCalls() {
+        check.sentence("including refusals, and after any later bindings, `pushChoice`, "
+            + "`popChoice` and `backtrack` calls");
+        for (Scene scene : scenes()) {
+            List<Call> calls = everyKindOfCall(scene.roots);
+            for (Call first : calls) {
+                for (Call second : calls) {
+                    sameAnswers(scene, first, second, Call.backtrack());
+                    sameAnswers(scene, Call.pushChoice(), first, second);
+                }
+            }
+        }
+    }
+
+    private static void sameAnswers(Scene scene, Call... run) {
+        LogicHeapCollector plain = scene.make();
+        LogicHeapCollector x = scene.make();
+        x.collect();
+        for (Call call : run) {
+            check.dueFast(scene.name, call.on(x), call.on(plain), call.text());
+        }
+        check.dueFast(scene.name, Check.state(x), Check.state(plain), "the state");
     }
 
     private static List<Call> everyKindOfCall(int roots) {

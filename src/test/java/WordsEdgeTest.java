@@ -14,8 +14,13 @@ final class WordsEdgeTest {
     public static void main(String[] args) {
         constantsKeepTheirRanges();
         structuresKeepEveryNameAndArity();
+        variablesAreUnboundOrBound();
+        dereferencedTermsAreNoBoundVariables();
         validRootsAreTheFirstOnes();
+        eachRootHoldsOneTerm();
         dereferencingAlwaysEnds();
+        structuresAreNeverCopied();
+        holdersSeeLaterBindings();
         creationsUseTheirCells();
         creationsPastTheBudgetAreRefused();
         severalBadArgumentsAreRefused();
@@ -52,6 +57,125 @@ final class WordsEdgeTest {
                 x.backtrack();
             }
         }
+    }
+
+    private static void variablesAreUnboundOrBound() {
+        check.sentence("While it exists, a variable is either unbound or bound to a term.");
+        for (int kind : new int[] {Check.ATOM, Check.INT, Check.STRUCT}) {
+            LogicHeapCollector x = new LogicHeapCollector(4, 32);
+            x.newVar(0);
+            check.dueTerm("unbound", x, 0, Check.VAR, 0, 0, 1);
+            check.due("an unbound one is itself", x.sameVar(0, 0), true);
+            setTerm(x, 1, kind, 2);
+            check.due("bind(0, 1)", x.bind(0, 1), Check.OK);
+            check.dueTerm("bound", x, 0, kind, 5, x.arity(1), x.treeSize(1));
+            check.due("a bound one is no unbound one", x.sameVar(0, 0), false);
+            setTerm(x, 1, Check.INT, 2);
+            check.due("bound it stays", x.bind(0, 1), Check.REFUSED);
+            check.due("kind(0)", x.kind(0), kind);
+        }
+    }
+
+    private static void setTerm(LogicHeapCollector x, int r, int kind, int first) {
+        if (kind == Check.STRUCT) {
+            x.build(r, 5, 2, first);
+        } else {
+            x.setConst(r, kind, 5);
+        }
+    }
+
+    /** Every getter looks through a chain of variables, from whichever of them it starts. */
+    private static void dereferencedTermsAreNoBoundVariables() {
+        check.sentence("A dereferenced term is never a bound variable.");
+        for (int kind : new int[] {Check.ATOM, Check.INT, Check.STRUCT}) {
+            LogicHeapCollector x = new LogicHeapCollector(8, 64);
+            for (int r = 7; r >= 2; r--) {
+                x.newVar(r);
+            }
+            for (int r = 2; r < 7; r++) {
+                check.due("bind(" + r + ", " + (r + 1) + ")", x.bind(r, r + 1), Check.OK);
+                check.dueTerm("variables alone", x, 2, Check.VAR, 0, 0, 1);
+                check.due("sameVar(2, " + (r + 1) + ")", x.sameVar(2, r + 1), true);
+            }
+            setTerm(x, 1, kind, 0);
+            check.due("bind(4, 1)", x.bind(4, 1), Check.OK);
+            for (int r = 2; r <= 7; r++) {
+                check.dueTerm("root " + r, x, r, kind, 5, x.arity(1), x.treeSize(1));
+                check.due("sameVar(" + r + ", " + r + ")", x.sameVar(r, r), false);
+                check.due("getArg(0, " + r + ", 1)", x.getArg(0, r, 1), kind == Check.STRUCT);
+                check.due("bind(" + r + ", 1)", x.bind(r, 1), Check.REFUSED);
+            }
+        }
+    }
+
+    private static void eachRootHoldsOneTerm() {
+        check.sentence("The machine has `R` roots, numbered `0..R-1`; each holds one term.");
+        for (int roots = 2; roots <= 8; roots++) {
+            LogicHeapCollector x = new LogicHeapCollector(roots, 16);
+            for (int r = 0; r < roots; r++) {
+                x.setConst(r, r % 2 == 0 ? Check.ATOM : Check.INT, 100 + r);
+            }
+            x.setConst(roots, Check.ATOM, 1);
+            for (int r = 0; r < roots; r++) {
+                check.dueTerm("root " + r + " of " + roots, x, r,
+                    r % 2 == 0 ? Check.ATOM : Check.INT, 100 + r, 0, 1);
+            }
+        }
+    }
+
+    private static void structuresAreNeverCopied() {
+        check.sentence("Variables and structures are shared, never copied.");
+        LogicHeapCollector x = new LogicHeapCollector(6, 32);
+        x.newVar(0);
+        x.build(1, 3, 1, 0);
+        x.newVar(2);
+        x.bind(2, 1);
+        int used = x.used();
+        x.move(3, 1);
+        x.move(4, 2);
+        x.getArg(5, 4, 1);
+        check.due("used() after move and getArg", x.used(), used);
+        x.build(4, 4, 4, 0);
+        check.due("used() grows by the new structure alone", x.used(), used + 5);
+        check.due("sameVar(5, 0)", x.sameVar(5, 0), true);
+        x.setConst(0, Check.INT, 9);
+        check.due("bind(5, 0)", x.bind(5, 0), Check.OK);
+        for (int k = 2; k <= 4; k++) {
+            x.getArg(5, 4, k);
+            check.dueTerm("the structure as argument " + k, x, 5, Check.STRUCT, 3, 1, 2);
+            x.getArg(5, 5, 1);
+            check.dueTerm("its own argument", x, 5, Check.INT, 9, 0, 1);
+        }
+    }
+
+    private static void holdersSeeLaterBindings() {
+        check.sentence("A root or argument that holds a variable holds that very variable and sees "
+            + "every later binding of it.");
+        LogicHeapCollector x = new LogicHeapCollector(8, 64);
+        for (int r = 0; r < 3; r++) {
+            x.newVar(r);
+        }
+        x.build(3, 6, 3, 0);
+        x.build(4, 7, 1, 3);
+        x.move(5, 1);
+        // First a variable, then a structure with a variable in it, then that one's constant.
+        x.bind(0, 1);
+        x.build(6, 8, 1, 2);
+        x.bind(1, 6);
+        x.setConst(6, Check.ATOM, 4);
+        x.bind(2, 6);
+        for (int r : new int[] {0, 1, 5}) {
+            check.dueTerm("root " + r, x, r, Check.STRUCT, 8, 1, 2);
+            x.getArg(6, r, 1);
+            check.dueTerm("its argument", x, 6, Check.ATOM, 4, 0, 1);
+        }
+        check.due("treeSize(3)", x.treeSize(3), 6);
+        check.due("treeSize(4)", x.treeSize(4), 7);
+        x.getArg(6, 4, 1);
+        x.getArg(7, 6, 3);
+        check.dueTerm("an argument's third argument", x, 7, Check.ATOM, 4, 0, 1);
+        x.getArg(7, 6, 1);
+        check.dueTerm("an argument's first argument", x, 7, Check.STRUCT, 8, 1, 2);
     }
 
     private static void validRootsAreTheFirstOnes() {
