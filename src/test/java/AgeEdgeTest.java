@@ -90,7 +90,7 @@ final class AgeEdgeTest {
             + "stays unbound.");
         for (int v = 0; v < VARIABLES; v++) {
             for (int t = 0; t < VARIABLES; t++) {
-                LogicHeapCollector x = variables(0, VARIABLES);
+                LogicHeapCollector x = variables(VARIABLES);
                 int used = x.used();
                 String call = "bind(" + v + ", " + t + ")";
                 check.due(call, x.bind(v, t), Check.OK);
@@ -106,10 +106,10 @@ final class AgeEdgeTest {
         }
     }
 
-    /** Roots 0 to 3 hold the variables, root 4 a structure over them, root 5 one over that. */
-    private static LogicHeapCollector variables(int first, int end) {
+    /** The roots from 0 on hold variables, root 4 a structure over roots 0 to 3, root 5 over 4. */
+    private static LogicHeapCollector variables(int count) {
         LogicHeapCollector x = new LogicHeapCollector(8, 64);
-        for (int r = first; r < end; r++) {
+        for (int r = 0; r < count; r++) {
             x.newVar(r);
         }
         x.build(4, 1, 4, 0);
@@ -128,6 +128,7 @@ final class AgeEdgeTest {
                     for (int pushes = 0; pushes < 1 << STEPS; pushes++) {
                         bindsAndGoesBack(run, pushes);
                     }
+                    popsAndGoesBack(run);
                 }
             }
         }
@@ -136,7 +137,7 @@ final class AgeEdgeTest {
     /** A bit of pushes tells whether a choice point stands before that step. */
     private static void bindsAndGoesBack(List<Step> run, int pushes) {
         String name = run.toString();
-        LogicHeapCollector x = variables(0, VARIABLES);
+        LogicHeapCollector x = variables(VARIABLES);
         List<Due> snapshots = new ArrayList<>();
         Due due = Due.allApart();
         for (int i = 0; i < STEPS; i++) {
@@ -152,6 +153,23 @@ final class AgeEdgeTest {
             shows(x, name, snapshots.get(level));
             x.popChoice();
         }
+    }
+
+    /** Dropped choice points leave what was bound; the oldest still undoes all of it. */
+    private static void popsAndGoesBack(List<Step> run) {
+        String name = run.toString();
+        LogicHeapCollector x = variables(VARIABLES);
+        Due due = Due.allApart();
+        for (Step step : run) {
+            x.pushChoice();
+            due = takes(x, step, due);
+        }
+        for (int left = STEPS - 1; left >= 1; left--) {
+            x.popChoice();
+            shows(x, name, due);
+        }
+        x.backtrack();
+        shows(x, name, Due.allApart());
     }
 
     private static Due takes(LogicHeapCollector x, Step step, Due due) {
@@ -194,7 +212,7 @@ final class AgeEdgeTest {
         for (Step step1 : steps()) {
             for (Step step2 : steps()) {
                 List<Step> run = List.of(step1, step2);
-                LogicHeapCollector x = variables(0, 2);
+                LogicHeapCollector x = variables(2);
                 String before = Check.state(x);
                 x.pushChoice();
                 x.newVar(2);
